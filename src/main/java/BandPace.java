@@ -481,7 +481,7 @@ public final class BandPace {
     }
 
     private static int bounded(int v) {
-        return Math.max(LEAST_PACE, Math.min(MOST_PACE, v));
+        return v < LEAST_PACE ? LEAST_PACE : v > MOST_PACE ? MOST_PACE : v;
     }
 
     /** Whether a player of a kind is one of another kind, too: a rusher is a steady one, all are players. */
@@ -786,6 +786,11 @@ public final class BandPace {
 
     /** A band with its song and law; without players there is none. */
     private static final class Band {
+        /** How many cells an act may change: paces, weights, the click, the bar to come, bars gone. */
+        static final int CHANGING = 33;
+
+        private static final int WEIGHTS = 25, FROM_WEIGHTS = 5, FROM_REST = 30;
+
         int players;
         int length;
         int next;
@@ -806,7 +811,7 @@ public final class BandPace {
             hastes = new int[MOST_PLAYERS];
             paces = new int[MOST_PLAYERS];
             fresh = new int[MOST_PLAYERS];
-            weights = new int[MOST_PLAYERS * MOST_PLAYERS];
+            weights = new int[WEIGHTS];
             song = new int[MOST_SONG];
         }
 
@@ -815,7 +820,7 @@ public final class BandPace {
             length = 0;
             next = 0;
             gone = 0;
-            for (int e = 0; e < MOST_PLAYERS * MOST_PLAYERS; e++) {
+            for (int e = 0; e < WEIGHTS; e++) {
                 weights[e] = 0;
             }
         }
@@ -832,8 +837,24 @@ public final class BandPace {
             System.arraycopy(other.kinds, 0, kinds, 0, MOST_PLAYERS);
             System.arraycopy(other.hastes, 0, hastes, 0, MOST_PLAYERS);
             System.arraycopy(other.paces, 0, paces, 0, MOST_PLAYERS);
-            System.arraycopy(other.weights, 0, weights, 0, MOST_PLAYERS * MOST_PLAYERS);
+            System.arraycopy(other.weights, 0, weights, 0, WEIGHTS);
             System.arraycopy(other.song, 0, song, 0, MOST_SONG);
+        }
+
+        void write(int[] cells, int at) {
+            System.arraycopy(paces, 0, cells, at, MOST_PLAYERS);
+            System.arraycopy(weights, 0, cells, at + FROM_WEIGHTS, WEIGHTS);
+            cells[at + FROM_REST] = clickTold;
+            cells[at + FROM_REST + 1] = next;
+            cells[at + FROM_REST + 2] = gone;
+        }
+
+        void read(int[] cells, int at) {
+            System.arraycopy(cells, at, paces, 0, MOST_PLAYERS);
+            System.arraycopy(cells, at + FROM_WEIGHTS, weights, 0, WEIGHTS);
+            clickTold = cells[at + FROM_REST];
+            next = cells[at + FROM_REST + 1];
+            gone = cells[at + FROM_REST + 2];
         }
 
         boolean stands() {
@@ -889,7 +910,7 @@ public final class BandPace {
 
         int leanAt(int one, int bar) {
             int kind = kinds[one];
-            if (!isOf(kind, STEADY)) {
+            if (kind != STEADY && kind != RUSHER && kind != DRAGGER) {
                 return 0;
             }
             switch (bar) {
@@ -938,19 +959,16 @@ public final class BandPace {
 
     /** What the band was ahead of each act that can be undone, in a ring of which the oldest is written over. */
     private static final class Acts {
-        private final Band[] ahead;
+        private final int[] cells;
         private int oldest;
         int kept;
 
         Acts() {
-            ahead = new Band[MOST_ACTS];
-            for (int k = 0; k < MOST_ACTS; k++) {
-                ahead[k] = new Band();
-            }
+            cells = new int[MOST_ACTS * Band.CHANGING];
         }
 
         void keep(Band band) {
-            ahead[(oldest + kept) % MOST_ACTS].become(band);
+            band.write(cells, (oldest + kept) % MOST_ACTS * Band.CHANGING);
             if (kept < MOST_ACTS) {
                 kept++;
             } else {
@@ -963,7 +981,7 @@ public final class BandPace {
                 return false;
             }
             kept--;
-            band.become(ahead[(oldest + kept) % MOST_ACTS]);
+            band.read(cells, (oldest + kept) % MOST_ACTS * Band.CHANGING);
             return true;
         }
 

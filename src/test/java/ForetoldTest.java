@@ -91,6 +91,10 @@ public final class ForetoldTest {
         Checks.due("20: the last that counts", z.round(1), 199);
         z.pace(0, 2300);
         Checks.due("20: one too late", z.round(0), Checks.NONE);
+        BandPace v = Checks.told("b0,0,0,60;zee;t60,1;");
+        v.pace(0, 2499);
+        Checks.due("20: the bar to come, too", v.round(0), 3);
+        Checks.due("20: the bar to come, too", v.round(1), 1);
         BandPace u = Checks.told("b0,0,0,60;ze;t60,0;t70,0;w0,1,5;w1,0,5;");
         Checks.due("20: 650 and 650", u.round(0), 2);
         Checks.due("20: the band alone would be as now", u.round(1), 1);
@@ -305,6 +309,7 @@ public final class ForetoldTest {
         Checks.due("29: long gone", x.clapped(99, 200), 1);
         x.pace(0, 2490);
         Checks.due("29: 2500 at most", x.clapped(30, 0), 10);
+        Checks.due("29: c 1", x.clapped(1, 0), 1);
         Checks.due("29: c 0", x.clapped(0, 0), Checks.BAD);
         Checks.due("29: c 100", x.clapped(100, 0), Checks.BAD);
         Checks.due("29: n -1", x.clapped(1, -1), Checks.BAD);
@@ -369,6 +374,7 @@ public final class ForetoldTest {
         BandPace nine = Checks.told(NINE);
         Checks.due("31: draws, too", nine.night(6, 1, 1), 3);
         Checks.due("31: draws, too", nine.night(6, 1, 0), 656);
+        Checks.due("31: again the same", nine.night(6, 1, 1), 3);
         BandPace low = Checks.told("b0,0,0,60;ze;t60,1;");
         low.pace(0, 300);
         Checks.due("31: 300 at least ahead of the bar", low.night(1, 5, 0), 301);

@@ -262,8 +262,16 @@ public final class PlayedTest {
         Checks.due("9: the oldest are forgotten", x.undo(), Checks.STATE);
         Checks.due("9: six bars stay", x.count(4), 6);
         Checks.due("9: and the claps", x.count(5), 615);
+        Checks.due("9: bar 0 of one", x.count(3), 0);
         x.bars(3);
         Checks.due("9: kept anew", x.undo(), 2);
         Checks.due("9: kept anew", x.count(5), 617);
+        BandPace y = Checks.told("b0,0,0,60;zefq;t60,1;");
+        y.bars(9);
+        for (int gone = 8; gone >= 0; gone--) {
+            y.undo();
+            Checks.due("9: the bar to come", y.count(3), gone % 3);
+            Checks.due("9: bars gone", y.count(4), gone);
+        }
     }
 }

@@ -48,7 +48,9 @@ public final class RowsTest {
         Checks.due("2: a row in place of one", x.row(1, 2, 3), 3);
         x.row(2, 2, 1);
         Checks.due("2: its items are 0", x.copy(1, 0, 2, 0, 1), 1);
-        Checks.due("2: no order is needed for one song", x.songs(1, 0, 3, -1), 0);
+        Checks.due("2: all of them", x.songs(1, 0, 3, -1), 0);
+        x.set(1, 1, 5);
+        Checks.due("2: 0 and 5", x.songs(1, 0, 2, -1), 5);
     }
 
     private static void set() {

@@ -53,6 +53,8 @@ public final class ToldTest {
         x.bars(3);
         x.hears(0, 1, 4);
         Checks.due("7: another one", Checks.read(x, LAW + "zcc;" + "d50,1;l99,0;"), 2);
+        Checks.due("7: its song", x.count(2), 2);
+        Checks.due("7: its song", x.bar(0), 3);
         Checks.due("7: bar 0 is to come", x.count(3), 0);
         Checks.due("7: no bars gone", x.count(4), 0);
         Checks.due("7: nothing to undo", x.count(7), 0);
@@ -93,6 +95,7 @@ public final class ToldTest {
         bad(LAW + "ze,", 12, 1);
         bad(LAW + "ze1", 12, 1);
         bad(LAW + "zeeeeeeeeeeeef;t60,0;", 23, 3);
+        bad(LAW + "zeeeeeeeeeeeee", 23, 3);
         bad(LAW + "zeeeeeeeeeeeex", 23, 1);
         bad(LAW + "zeeeeeeeeeeee", 23, 1);
     }
