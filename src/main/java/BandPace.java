@@ -61,7 +61,7 @@ public final class BandPace {
             return found(BELOW_NONE);
         }
         rows.make(row, lane, n);
-        return faultless(n);
+        return withoutFinding(n);
     }
 
     public int set(int row, int i, int v) {
@@ -74,7 +74,7 @@ public final class BandPace {
         if (!rows.holds(row, i, 1)) {
             return found(NO_PLACE);
         }
-        return faultless(rows.put(row, i, v));
+        return withoutFinding(rows.put(row, i, v));
     }
 
     public int copy(int a, int i, int b, int j, int n) {
@@ -91,7 +91,7 @@ public final class BandPace {
             return found(NO_PLACE);
         }
         rows.carry(a, i, b, j, n);
-        return faultless(n);
+        return withoutFinding(n);
     }
 
     public int drop(int row) {
@@ -101,7 +101,7 @@ public final class BandPace {
         if (rows.lacks(row)) {
             return found(MISSING_ROW);
         }
-        return faultless(rows.forget(row));
+        return withoutFinding(rows.forget(row));
     }
 
     // ---- what is told
@@ -278,7 +278,7 @@ public final class BandPace {
         }
         rows.lend(row, i, 2 * m);
         seer.findFallen(now, rows.lent, m, n);
-        return faultless(what == 0 ? seer.first : seer.second);
+        return withoutFinding(what == 0 ? seer.first : seer.second);
     }
 
     public int countIn(int n, int pace) {
@@ -345,7 +345,7 @@ public final class BandPace {
             }
         }
         orders.findLeast(rows.lent, n);
-        return faultless(k == -1 ? orders.least : orders.best[k]);
+        return withoutFinding(k == -1 ? orders.least : orders.best[k]);
     }
 
     public int clapped(int c, int n) {
@@ -373,7 +373,7 @@ public final class BandPace {
         }
         rows.lend(row, i, now.players);
         seer.findPushers(now, rows.lent);
-        return faultless(what == 0 ? seer.first : seer.second);
+        return withoutFinding(what == 0 ? seer.first : seer.second);
     }
 
     public int night(int n, int seed, int what) {
@@ -423,7 +423,7 @@ public final class BandPace {
         if (!isOf(now.kinds[one], kind)) {
             return found(OTHER_KIND);
         }
-        return faultless(one);
+        return withoutFinding(one);
     }
 
     public int ask(int one, int what) {
@@ -471,7 +471,7 @@ public final class BandPace {
         return FINDINGS - finding;
     }
 
-    private int faultless(int answer) {
+    private int withoutFinding(int answer) {
         latestFinding = 0;
         return answer;
     }

@@ -95,6 +95,8 @@ public final class ForetoldTest {
         v.pace(0, 2499);
         Checks.due("20: the bar to come, too", v.round(0), 3);
         Checks.due("20: the bar to come, too", v.round(1), 1);
+        BandPace five = Checks.told("b0,0,0,60;ze;t60,0;t61,0;t62,0;k60,0;l60,0;");
+        Checks.due("20: all of five", five.round(0), 1);
         BandPace u = Checks.told("b0,0,0,60;ze;t60,0;t70,0;w0,1,5;w1,0,5;");
         Checks.due("20: 650 and 650", u.round(0), 2);
         Checks.due("20: the band alone would be as now", u.round(1), 1);
@@ -133,6 +135,8 @@ public final class ForetoldTest {
         Checks.due("22: nobody", x.dancers(0, 6, 1, 200, 1), Checks.NONE);
         x.row(1, 2, 40);
         Checks.due("22: ten", x.dancers(1, 20, 10, 0, 0), 1023);
+        x.row(7, 2, 40);
+        Checks.due("22: ten, up to the end of the last row", x.dancers(7, 20, 10, 0, 0), 1023);
     }
 
     private static void dancersRefused() {
@@ -299,6 +303,9 @@ public final class ForetoldTest {
         Checks.due("28: an item below 0", x.songs(0, 0, 2, 0), Checks.BAD);
         Checks.due("28: an item above 2500", x.songs(0, 2, 2, 0), Checks.BAD);
         Checks.due("28: 0 and 2500", x.songs(0, 1, 2, -1), 2500);
+        Checks.due("28: items beyond the n are not looked at", x.songs(0, 2, 1, -1), 0);
+        Checks.due("28: an item above 2500", x.songs(0, 2, 2, 0), Checks.BAD);
+        Checks.due("28: nor are those of a call before", x.songs(0, 2, 1, 0), 0);
     }
 
     private static void clapped() {
@@ -327,6 +334,7 @@ public final class ForetoldTest {
         pushed(Checks.told("b0,0,0,60;zh;t60,1;t70,2;"), 3, 1, 600, 700);
         pushed(Checks.told("b0,0,0,60;ze;l60,0;"), 1, 3, 603);
         pushed(Checks.told("b0,0,0,60;ze;k60,0;"), 1, 1, 601);
+        pushed(Checks.told("b0,0,0,60;ze;t60,0;t61,0;t62,0;k60,0;l60,0;"), 16, 3, 600, 610, 620, 600, 603);
         BandPace y = Checks.told("b0,0,0,60;ze;t60,0;t60,9;t60,0;");
         y.pace(1, 2499);
         y.pace(2, 2490);

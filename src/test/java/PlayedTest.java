@@ -248,6 +248,10 @@ public final class PlayedTest {
         Checks.paces("9: the first", x, 600, 610, 590, 620, 600);
         Checks.due("9: none", x.undo(), Checks.STATE);
         Checks.due("9: no bar is gone", x.count(4), 0);
+        int[] heard = {1, 1, 1, 0, 0};
+        for (int p = 0; p < 5; p++) {
+            Checks.due("9: heard by " + p, x.player(p, 3), heard[p]);
+        }
     }
 
     private static void undoForgets() {

@@ -88,6 +88,7 @@ public final class ToldTest {
 
     private static void faultsOfSong() {
         bad(LAW + "e", 10, 1);
+        bad(LAW + "t60,0;", 10, 1);
         bad(LAW + "z", 11, 1);
         bad(LAW + "z;", 11, 1);
         bad(LAW + "zt;", 11, 1);
