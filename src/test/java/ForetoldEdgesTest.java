@@ -34,6 +34,7 @@ public final class ForetoldEdgesTest {
         night();
         nightDraws();
         images();
+        nothingIsLeft();
         Checks.end("ForetoldEdgesTest");
     }
 
@@ -117,6 +118,14 @@ public final class ForetoldEdgesTest {
         Edges.foretold("20: a song later, 200", of(twelve, 2312), x -> x.round(0), 200);
         Edges.foretold("20: a song later, 188", of(twelve, 2312), x -> x.round(1), 188);
         Edges.foretold("20: a song later, 201", of(twelve, 2311), x -> x.round(0), Checks.NONE);
+        // of five all must be as they were: the last comes to 2500 behind six, the others stay
+        String five = "b0,0,0,60;ze;t60,0;t61,0;t62,0;t63,0;t60,9;";
+        Edges.Start last = x -> {
+            Edges.with(five).on(x);
+            x.pace(4, 2450);
+        };
+        Edges.foretold("20: the last of five", last, x -> x.round(0), 7);
+        Edges.foretold("20: the last of five", last, x -> x.round(1), 6);
     }
 
     private static void noticed() {
@@ -292,6 +301,9 @@ public final class ForetoldEdgesTest {
         Edges.range("26: player", FULL, (x, v) -> x.blame(v), 0, 4);
         Edges.range("26: player of one", STILL, (x, v) -> x.blame(v), 0, 0);
         Edges.foretold("26: none", STILL, x -> x.blame(0), 0);
+        Edges.Start both = Edges.with("b0,0,0,60;ze;t60,4;t60,8;");
+        Edges.foretold("26: 6 less 4", both, x -> x.blame(0), 2);
+        Edges.foretold("26: 6 less 2", both, x -> x.blame(1), 4);
         Edges.foretold("26: all of it", NINE, x -> x.blame(0), 9);
         Edges.foretold("26: 2500 either way", of("b20,0,0,60;zf;r60,9;", 2500), x -> x.blame(0), 0);
         Edges.foretold("26: not at a held one", Edges.with("b9,9,9,60;zh;r60,9;"), x -> x.blame(0), 0);
@@ -424,9 +436,11 @@ public final class ForetoldEdgesTest {
 
     private static void songsOrder() {
         int[][] rows = {{5}, {5, 5}, {9, 1}, {1, 9, 5}, {9, 1, 5}, {3, 3, 1}, {1, 2, 3, 4, 5, 6}, {6, 5, 4, 3, 2, 1},
-            {0, 2500, 0, 2500, 0, 2500}, {7, 7, 7, 7, 7, 7}};
+            {0, 2500, 0, 2500, 0, 2500}, {7, 7, 7, 7, 7, 7}, {5, 1, 9}, {5, 9, 1}, {2, 6, 4, 1, 3, 5}, {3, 4, 5, 2, 6, 1},
+            {4, 5, 2, 3, 6, 1}};
         int[][] orders = {{0}, {0, 1}, {0, 1}, {0, 2, 1}, {0, 2, 1}, {0, 1, 2}, {0, 1, 2, 3, 4, 5}, {0, 1, 2, 3, 4, 5},
-            {0, 2, 4, 1, 3, 5}, {0, 1, 2, 3, 4, 5}};
+            {0, 2, 4, 1, 3, 5}, {0, 1, 2, 3, 4, 5}, {1, 0, 2}, {1, 0, 2}, {1, 5, 2, 4, 0, 3}, {4, 2, 1, 0, 3, 5},
+            {4, 1, 0, 3, 2, 5}};
         for (int r = 0; r < rows.length; r++) {
             BandPace x = new BandPace();
             Checks.fill(x, 0, 1, rows[r]);
@@ -535,6 +549,8 @@ public final class ForetoldEdgesTest {
 
     private static void images() {
         Edges.range("32: k", FULL, (x, v) -> x.image(v), 0, 1);
+        Edges.taken("32: the first", FULL, x -> x.image(0), 1);
+        Edges.taken("32: the second", FULL, x -> x.image(1), 1);
         Edges.range("33: k", FULL, (x, v) -> x.restore(v), 0, 1);
         for (int k = 0; k < 2; k++) {
             int one = k;
@@ -570,5 +586,52 @@ public final class ForetoldEdgesTest {
         Checks.read(x, Checks.FIVE);
         Checks.due("33: behind another band", x.restore(0), 1);
         Checks.due("33: behind another band", x.count(1), 1);
+    }
+
+    /** What was foretold before makes no answer another one: all calls on one object, there and back. */
+    private static void nothingIsLeft() {
+        Edges.Call[] calls = {x -> x.ahead(0, 30), x -> x.ahead(-1, 7), x -> x.drift(), x -> x.round(0), x -> x.round(1),
+            x -> x.noticed(200, 3), x -> x.dancers(0, 0, 3, 20, 0), x -> x.dancers(0, 0, 3, 20, 1),
+            x -> x.dancers(0, 4, 1, 0, 1), x -> x.countIn(9, 700), x -> x.deaf(0), x -> x.deaf(1), x -> x.inEar(0),
+            x -> x.inEar(1), x -> x.blame(0), x -> x.blame(1), x -> x.blame(4), x -> x.back(3, 5, 9, 640),
+            x -> x.back(4, 9, 5, 610), x -> x.songs(0, 0, 6, -1), x -> x.songs(0, 1, 3, 1), x -> x.songs(4, 0, 2, 0),
+            x -> x.clapped(9, 4), x -> x.clapped(99, 0), x -> x.whoPushed(0, 1, 0), x -> x.whoPushed(0, 1, 1),
+            x -> x.whoPushed(2, 0, 0), x -> x.whoPushed(2, 0, 1), x -> x.night(20, 5, 0), x -> x.night(20, 5, 1),
+            x -> x.night(0, 5, 1), x -> x.ask(1, 0), x -> x.ask(4, 1)};
+        Edges.Start[] starts = {FULL, x -> {
+            Edges.full(x);
+            x.undo();
+            pushedRow(x);
+        }, x -> {
+            Edges.full(x);
+            x.bars(1);
+            x.hears(2, 3, 0);
+            pushedRow(x);
+        }};
+        for (Edges.Start start : starts) {
+            BandPace x = Edges.made(start);
+            for (int k = 0; k < 2 * calls.length; k++) {
+                Edges.Call call = calls[k < calls.length ? k : 2 * calls.length - 1 - k];
+                Checks.due("foretold: call " + k + " of many", call.on(x), call.on(Edges.made(start)));
+            }
+        }
+        BandPace y = Checks.told("b0,0,0,60;ze;t60,9;t60,9;w0,1,5;");
+        Checks.due("31: nothing was noticed", y.night(0, 1, 1), 0);
+        Checks.due("25: a night of none leaves no answer", y.inEar(0), 0);
+        Checks.due("31: nothing was noticed", y.night(0, 1, 1), 0);
+        Checks.due("25: 605 and 609", y.inEar(1), 7);
+        Checks.due("31: nothing was noticed", y.night(0, 1, 1), 0);
+        Checks.due("24: a night of none leaves no answer", y.deaf(0), 1);
+        Checks.due("31: nothing was noticed", y.night(0, 1, 1), 0);
+        Checks.due("24: 609 and 609", y.deaf(1), 9);
+    }
+
+    /** Row 2 tells the paces behind the next bar, of which 3, with a click, is 2 more. */
+    private static void pushedRow(BandPace x) {
+        x.row(2, 1, 5);
+        for (int p = 0; p < 5; p++) {
+            x.set(2, p, x.ahead(p, 1) + (p == 3 ? 2 : 0));
+        }
+        Checks.due("30: somebody pushed", x.whoPushed(2, 0, 0), 8);
     }
 }

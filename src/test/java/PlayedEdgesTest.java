@@ -114,6 +114,13 @@ public final class PlayedEdgesTest {
             Checks.due("9: the pace ahead of it", y.count(5), 600 + 9 * left);
         }
         Checks.due("9: no more", y.undo(), Checks.STATE);
+        BandPace z = Checks.told("b0,0,0,60;zefq;t60,0;t61,0;t62,0;t63,0;t64,1;");
+        z.bars(7);
+        for (int left = 6; left >= 0; left--) {
+            Checks.due("9: back over the song's end, left", z.undo(), left);
+            Checks.due("9: the bar to come again", z.count(3), left % 3);
+            Checks.paces("9: behind " + left, z, 600, 610, 620, 630, 640 + left);
+        }
     }
 
     /** Behind 23 more acts it can be undone yet, behind 24 more it cannot. */
