@@ -10,6 +10,8 @@ import java.util.Random;
 /** Random runs of calls, every answer compared with that of the Model; nothing may be thrown. */
 public final class ModelTest {
     private static final int RUNS = 1500, CALLS = 512;
+    /** The longest step that is not a text, pushRow, so that no run goes beyond the calls of one object. */
+    private static final int STEP = 16;
     private static final int[] EDGES = {-1, 0, 1, 2, 5, 6, 8, 10, 20, 24, 25, 40, 41, 99, 100, 200, 201, 299, 300, 999, 2500, 2501,
         999999, 1000000, Integer.MAX_VALUE, Integer.MIN_VALUE, Integer.MAX_VALUE - 1, -2, 255, 256};
 
@@ -49,7 +51,7 @@ public final class ModelTest {
         if (random.nextInt(10) > 0) {
             tell(goodText());
         }
-        while (calls < CALLS && !parted) {
+        while (calls <= CALLS - STEP && !parted) {
             int way = random.nextInt(100);
             if (way < 2 && calls < CALLS - 145) {
                 tell(random.nextBoolean() ? goodText() : spoilt(goodText()));
