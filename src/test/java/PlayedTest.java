@@ -15,6 +15,7 @@ public final class PlayedTest {
         bar();
         undo();
         undoForgets();
+        setToTheSame();
         Checks.end("PlayedTest");
     }
 
@@ -277,5 +278,24 @@ public final class PlayedTest {
             Checks.due("9: the bar to come", y.count(3), gone % 3);
             Checks.due("9: bars gone", y.count(4), gone);
         }
+    }
+
+    /** The promises of pace, hears, click make no exception for what is so already: an act all the same (NOTES.md). */
+    private static void setToTheSame() {
+        BandPace x = Checks.told(Checks.FIVE);
+        Checks.due("11: the same", x.pace(0, 600), 600);
+        Checks.due("11: an act", x.count(7), 1);
+        Checks.due("12: the same", x.hears(0, 1, 5), 5);
+        Checks.due("12: an act", x.count(7), 2);
+        Checks.due("12: not at all, as before", x.hears(3, 4, 0), 0);
+        Checks.due("12: an act", x.count(7), 3);
+        Checks.due("13: the same", x.click(62), 62);
+        Checks.due("13: an act", x.count(7), 4);
+        x.pace(0, 700);
+        Checks.due("9: the pace", x.undo(), 4);
+        Checks.due("9: the click, the same", x.undo(), 3);
+        Checks.paces("9: nothing else", x, 600, 610, 590, 620, 600);
+        Checks.due("9: click", x.count(6), 62);
+        Checks.due("9: the ear", x.ear(0, 1), 5);
     }
 }
